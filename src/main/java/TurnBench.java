@@ -251,7 +251,8 @@ public final class TurnBench {
         }
     }
 
-    private static int letterOf(int code) {
+    // A code is an index and 1 more, with a sign: of a letter, or of powers.
+    private static int indexOfCode(int code) {
         return code > 0 ? code - 1 : -code - 1;
     }
 
@@ -287,7 +288,10 @@ public final class TurnBench {
             if (!isCode(a) || !isCode(b) || !isCode(c)) {
                 return false;
             }
-            return letterOf(a) != letterOf(b) && letterOf(a) != letterOf(c) && letterOf(b) != letterOf(c);
+            int first = indexOfCode(a);
+            int second = indexOfCode(b);
+            int third = indexOfCode(c);
+            return first != second && first != third && second != third;
         }
     }
 
@@ -315,7 +319,7 @@ public final class TurnBench {
             do {
                 seen |= 1 << at;
                 product = codes[at] < 0 ? -product : product;
-                at = letterOf(codes[at]);
+                at = indexOfCode(codes[at]);
                 steps++;
             } while (at != first && steps < LETTERS);
             length[howMany] = steps;
@@ -334,7 +338,7 @@ public final class TurnBench {
         }
     }
 
-    /** THE GROUP as it was made latest; it keeps its own copy of the turns, which may change before it is made anew. */
+    /** THE GROUP as it was made latest; it keeps its own copy of the turns, as others may be told behind that. */
     private static final class Group {
         private static final int KEYS = 343;
 
@@ -394,7 +398,7 @@ public final class TurnBench {
         }
 
         private static int codeThen(int code, int[] then) {
-            int next = then[letterOf(code)];
+            int next = then[indexOfCode(code)];
             return code < 0 ? -next : next;
         }
 
@@ -548,7 +552,7 @@ public final class TurnBench {
         }
     }
 
-    /** SERIES. */
+    /** SERIES: one by D, degree by degree, and its sum over THE GROUP. */
     private static final class Molien {
         final int[] row = new int[SERIES_DEGREE + 1];
 
@@ -622,21 +626,17 @@ public final class TurnBench {
             return indexOf(of[0][x] + of[0][y], of[1][x] + of[1][y], of[2][x] + of[2][y]);
         }
 
-        /** To which powers an element turns these: their index and 1 more, with the sign. */
+        /** The code of what an element turns these powers to. */
         int turnedCode(int[] codes, int x) {
             int sign = 1;
             for (int letter = 0; letter < LETTERS; letter++) {
                 int power = of[letter][x];
-                sent[letterOf(codes[letter])] = power;
+                sent[indexOfCode(codes[letter])] = power;
                 if (codes[letter] < 0 && (power & 1) == 1) {
                     sign = -sign;
                 }
             }
             return sign * (indexOf(sent[0], sent[1], sent[2]) + 1);
-        }
-
-        static int indexOfCode(int code) {
-            return code > 0 ? code - 1 : -code - 1;
         }
     }
 
@@ -700,7 +700,7 @@ public final class TurnBench {
             for (int x = 0; x < ALL_POWERS; x++) {
                 if (row[x] != 0) {
                     int code = powers.turnedCode(codes, x);
-                    addAside(Powers.indexOfCode(code), signedNumber(code * sign, row[x]));
+                    addAside(indexOfCode(code), signedNumber(code * sign, row[x]));
                 }
             }
         }
@@ -723,7 +723,7 @@ public final class TurnBench {
             for (int x = 0; x < ALL_POWERS; x++) {
                 for (int g = 0; row[x] != 0 && g < group.size; g++) {
                     int code = powers.turnedCode(group.codes[g], x);
-                    if (row[Powers.indexOfCode(code)] != signedNumber(code * sign[g], row[x])) {
+                    if (row[indexOfCode(code)] != signedNumber(code * sign[g], row[x])) {
                         return false;
                     }
                 }
@@ -731,7 +731,7 @@ public final class TurnBench {
             return true;
         }
 
-        /** COUNT: the powers of a degree fall apart into those that are turned to one another; each such lot has one or none. */
+        // Powers fall apart into lots that are turned to one another: in each lot just one polynomial stays, or none.
         int countLeft(int d, Group group, int[] sign) {
             int found = 0;
             int first = Powers.firstOf(d);
@@ -745,7 +745,7 @@ public final class TurnBench {
         private boolean isFirstOfLeft(int x, Group group, int[] sign) {
             for (int g = 0; g < group.size; g++) {
                 int code = powers.turnedCode(group.codes[g], x);
-                int to = Powers.indexOfCode(code);
+                int to = indexOfCode(code);
                 if (to < x || to == x && code * sign[g] < 0) {
                     return false;
                 }
@@ -979,7 +979,7 @@ public final class TurnBench {
             int first = Powers.firstOf(layer.degree);
             for (int g = 0; g < group.size; g++) {
                 int code = powers.turnedCode(group.codes[g], first + x);
-                int at = Powers.indexOfCode(code) - first;
+                int at = indexOfCode(code) - first;
                 if (at >= 0 && at < layer.width) {
                     average[at] = (average[at] + signedNumber(code, share)) % PRIME;
                 }
@@ -1078,7 +1078,7 @@ public final class TurnBench {
 
         private void lead(int[] codes) {
             for (int letter = 0; letter < LETTERS; letter++) {
-                led[letterOf(codes[letter])] = codes[letter] < 0 ? -place[letter] : place[letter];
+                led[indexOfCode(codes[letter])] = codes[letter] < 0 ? -place[letter] : place[letter];
             }
         }
 

@@ -28,6 +28,11 @@ public final class OracleTest {
         }
     }
 
+    private static String call(String name, int... args) {
+        String text = Arrays.toString(args);
+        return name + "(" + text.substring(1, text.length() - 1) + ")";
+    }
+
     private static String tail() {
         return run.subList(Math.max(0, run.size() - 40), run.size()).toString();
     }
@@ -243,11 +248,11 @@ public final class OracleTest {
         }
 
         void turn(int i, int a, int b, int c) {
-            due("turn(" + i + ", " + a + ", " + b + ", " + c + ")", bench.turn(i, a, b, c) ? 1 : 0, model.turn(i, a, b, c) ? 1 : 0);
+            due(call("turn", i, a, b, c), bench.turn(i, a, b, c) ? 1 : 0, model.turn(i, a, b, c) ? 1 : 0);
         }
 
         void drop(int i) {
-            due("drop(" + i + ")", bench.drop(i) ? 1 : 0, model.drop(i) ? 1 : 0);
+            due(call("drop", i), bench.drop(i) ? 1 : 0, model.drop(i) ? 1 : 0);
         }
 
         void group() {
@@ -255,31 +260,34 @@ public final class OracleTest {
         }
 
         void about(int what) {
-            due("about(" + what + ")", bench.about(what), model.about(what));
+            due(call("about", what), bench.about(what), model.about(what));
         }
 
         void element(int g, int i) {
-            due("element(" + g + ", " + i + ")", bench.element(g, i), model.isElement(g) && i >= 0 && i < 3 ? model.elements.get(g)[i] : 0);
+            due(call("element", g, i),
+                bench.element(g, i), model.isElement(g) && i >= 0 && i < 3 ? model.elements.get(g)[i] : 0);
         }
 
         void times(int g, int h) {
-            due("times(" + g + ", " + h + ")", bench.times(g, h), model.isElement(g) && model.isElement(h) ? model.times(g, h) : -1);
+            due(call("times", g, h),
+                bench.times(g, h), model.isElement(g) && model.isElement(h) ? model.times(g, h) : -1);
         }
 
         void of(int g, int what) {
-            due("of(" + g + ", " + what + ")", bench.of(g, what), model.of(g, what));
+            due(call("of", g, what), bench.of(g, what), model.of(g, what));
         }
 
         void sign(int c, int g) {
-            due("sign(" + c + ", " + g + ")", bench.sign(c, g), model.isSign(c) && model.isElement(g) ? model.signs.get(c)[g] : 0);
+            due(call("sign", c, g),
+                bench.sign(c, g), model.isSign(c) && model.isElement(g) ? model.signs.get(c)[g] : 0);
         }
 
         void put(int p, int i, int j, int k, int n) {
-            due("put(" + p + ", " + i + ", " + j + ", " + k + ", " + n + ")", bench.put(p, i, j, k, n) ? 1 : 0, model.put(p, i, j, k, n) ? 1 : 0);
+            due(call("put", p, i, j, k, n), bench.put(p, i, j, k, n) ? 1 : 0, model.put(p, i, j, k, n) ? 1 : 0);
         }
 
         void number(int p, int i, int j, int k) {
-            due("number(" + p + ", " + i + ", " + j + ", " + k + ")", bench.number(p, i, j, k), model.number(p, i, j, k));
+            due(call("number", p, i, j, k), bench.number(p, i, j, k), model.number(p, i, j, k));
         }
 
         /** Asks one object for all numbers of a polynomial: more than 512 calls, but none of them changes anything. */
@@ -290,7 +298,7 @@ public final class OracleTest {
                         int want = model.number(p, i, j, d - i - j);
                         int got = bench.number(p, i, j, d - i - j);
                         if (got != want) {
-                            due("number(" + p + ", " + i + ", " + j + ", " + (d - i - j) + ")", got, want);
+                            due(call("number", p, i, j, d - i - j), got, want);
                         }
                     }
                 }
@@ -298,51 +306,52 @@ public final class OracleTest {
         }
 
         void degree(int p) {
-            due("degree(" + p + ")", bench.degree(p), Model.isPolynomial(p) ? Model.degree(model.polynomials.get(p)) : -1);
+            due(call("degree", p),
+                bench.degree(p), Model.isPolynomial(p) ? Model.degree(model.polynomials.get(p)) : -1);
         }
 
         void sum(int p, int q, int n, int r, int m) {
-            due("sum(" + p + ", " + q + ", " + n + ", " + r + ", " + m + ")", bench.sum(p, q, n, r, m), model.sum(p, q, n, r, m));
+            due(call("sum", p, q, n, r, m), bench.sum(p, q, n, r, m), model.sum(p, q, n, r, m));
         }
 
         void product(int p, int q, int r) {
-            due("product(" + p + ", " + q + ", " + r + ")", bench.product(p, q, r), model.product(p, q, r));
+            due(call("product", p, q, r), bench.product(p, q, r), model.product(p, q, r));
         }
 
         void turned(int p, int q, int g) {
-            due("turned(" + p + ", " + q + ", " + g + ")", bench.turned(p, q, g), model.turned(p, q, g));
+            due(call("turned", p, q, g), bench.turned(p, q, g), model.turned(p, q, g));
         }
 
         void mean(int p, int q, int c) {
-            due("mean(" + p + ", " + q + ", " + c + ")", bench.mean(p, q, c), model.mean(p, q, c));
+            due(call("mean", p, q, c), bench.mean(p, q, c), model.mean(p, q, c));
         }
 
         void stays(int p, int c) {
-            due("stays(" + p + ", " + c + ")", bench.stays(p, c), model.stays(p, c));
+            due(call("stays", p, c), bench.stays(p, c), model.stays(p, c));
         }
 
         void count(int d, int c) {
-            due("count(" + d + ", " + c + ")", bench.count(d, c), model.count(d, c));
+            due(call("count", d, c), bench.count(d, c), model.count(d, c));
         }
 
         void series(int d, int c) {
-            due("series(" + d + ", " + c + ")", bench.series(d, c), model.series(d, c));
+            due(call("series", d, c), bench.series(d, c), model.series(d, c));
         }
 
         void few(int p, int i) {
-            due("few(" + p + ", " + i + ")", bench.few(p, i), model.few(p, i));
+            due(call("few", p, i), bench.few(p, i), model.few(p, i));
         }
 
         void laws(int d, int what) {
-            due("laws(" + d + ", " + what + ")", bench.laws(d, what), model.laws(d, what));
+            due(call("laws", d, what), bench.laws(d, what), model.laws(d, what));
         }
 
         void made(int p) {
-            due("made(" + p + ")", bench.made(p), model.made(p));
+            due(call("made", p), bench.made(p), model.made(p));
         }
 
         void part(int i, int what) {
-            due("part(" + i + ", " + what + ")", bench.part(i, what), model.part(i, what));
+            due(call("part", i, what), bench.part(i, what), model.part(i, what));
         }
 
         void allParts() {
@@ -354,20 +363,20 @@ public final class OracleTest {
         }
 
         void value(int p, int u, int v, int w) {
-            due("value(" + p + ", " + u + ", " + v + ", " + w + ")", bench.value(p, u, v, w), model.value(p, u, v, w));
+            due(call("value", p, u, v, w), bench.value(p, u, v, w), model.value(p, u, v, w));
         }
 
         void images(int u, int v, int w) {
-            due("images(" + u + ", " + v + ", " + w + ")", bench.images(u, v, w), model.images(u, v, w));
+            due(call("images", u, v, w), bench.images(u, v, w), model.images(u, v, w));
         }
 
         void image(int i, int what) {
             boolean known = i >= 0 && i < model.images.size() && what >= 0 && what < 3;
-            due("image(" + i + ", " + what + ")", bench.image(i, what), known ? model.images.get(i).get(what) : 0);
+            due(call("image", i, what), bench.image(i, what), known ? model.images.get(i).get(what) : 0);
         }
 
         void leads(int u, int v, int w) {
-            due("leads(" + u + ", " + v + ", " + w + ")", bench.leads(u, v, w), model.leads(u, v, w));
+            due(call("leads", u, v, w), bench.leads(u, v, w), model.leads(u, v, w));
         }
 
         void leadsToImage(int i) {
