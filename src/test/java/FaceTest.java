@@ -1,3 +1,4 @@
+import com.sun.management.ThreadMXBean;
 import java.io.IOException;
 import java.lang.management.ManagementFactory;
 import java.lang.reflect.Constructor;
@@ -155,7 +156,7 @@ public final class FaceTest {
         due("fields and elements held, " + held[1], held[1] < 30000, true);
         TurnBench x = new TurnBench();
         dearCalls(x);
-        com.sun.management.ThreadMXBean threads = (com.sun.management.ThreadMXBean) ManagementFactory.getThreadMXBean();
+        ThreadMXBean threads = (ThreadMXBean) ManagementFactory.getThreadMXBean();
         long self = Thread.currentThread().getId();
         long before = threads.getThreadAllocatedBytes(self);
         for (int n = 0; n < 20; n++) {

@@ -290,7 +290,7 @@ public final class OracleTest {
             due(call("number", p, i, j, k), bench.number(p, i, j, k), model.number(p, i, j, k));
         }
 
-        /** Asks one object for all numbers of a polynomial: more than 512 calls, but none of them changes anything. */
+        /** All numbers of a polynomial: they may be more than 512 calls, but none of them changes anything. */
         void wholePolynomial(int p) {
             for (int d = 0; d <= 8; d++) {
                 for (int i = 0; i <= d; i++) {
@@ -671,7 +671,8 @@ public final class OracleTest {
             return degree(row);
         }
 
-        static Map<List<Integer>, Integer> sum(Map<List<Integer>, Integer> a, long n, Map<List<Integer>, Integer> b, long m) {
+        static Map<List<Integer>, Integer> sum(
+                Map<List<Integer>, Integer> a, long n, Map<List<Integer>, Integer> b, long m) {
             Map<List<Integer>, Integer> row = new HashMap<>();
             a.forEach((powers, x) -> addTo(row, powers, x * (long) left(n)));
             b.forEach((powers, x) -> addTo(row, powers, x * (long) left(m)));
@@ -805,7 +806,7 @@ public final class OracleTest {
             }
         }
 
-        /** The staying ones are those that all 'turned less sign times itself' send to 0: all less the rank of these. */
+        /** Those stay that each 'turned, less the sign times itself' sends to 0: all, less the rank of these. */
         int count(int d, int c) {
             if (d < 0 || d > 8 || !isSign(c)) {
                 return -1;

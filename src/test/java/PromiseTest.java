@@ -72,8 +72,8 @@ public final class PromiseTest {
         due("all turned", x.turn(3, -3, -2, -1), true);
         due("group stays", x.about(0), 1);
         due("made", x.group(), 2);
-        int[][] wrongCodes = {{0, 2, 3}, {1, 0, 3}, {1, 2, 0}, {1, 1, 2}, {1, -1, 2}, {2, 1, 2}, {3, 2, -2}, {4, 2, 3},
-            {1, -4, 3}, {LEAST, 2, 3}, {1, GREATEST, 3}, {1, 2, LEAST}};
+        int[][] wrongCodes = {{0, 2, 3}, {1, 0, 3}, {1, 2, 0}, {1, 1, 2}, {1, -1, 2}, {2, 1, 2}, {3, 2, -2},
+            {4, 2, 3}, {1, -4, 3}, {LEAST, 2, 3}, {1, GREATEST, 3}, {1, 2, LEAST}};
         for (int[] c : wrongCodes) {
             due("wrong codes", x.turn(3, c[0], c[1], c[2]), false);
         }
@@ -611,7 +611,7 @@ public final class PromiseTest {
             due("no part", x.part(i, 0), -1);
             due("another what", x.part(0, i), -1);
         }
-        // of 6 few with laws among them: x x times y y is few 0 with few 3, but (x y) twice is that too, and comes behind
+        // of 6 few with laws among them: few 0 with few 3 is few 1 twice, which comes behind it
         x.put(2, 2, 2, 0, 9);
         due("one part", x.made(2), 1);
         int[] one = {9, 4, 1, 0, 0, 1, 0, 0};
