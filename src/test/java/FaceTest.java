@@ -154,7 +154,7 @@ public final class FaceTest {
         return most;
     }
 
-    /** All calls of a run live in one room: an object and 512 calls, the dear ones by turns, take less than it has. */
+    /** All calls of a run live in one room: an object and its 512 calls, dear ones, take less than it has. */
     private static void room() {
         long[] held = {0, 0};
         measure(new TurnBench(), Collections.newSetFromMap(new IdentityHashMap<>()), held);
@@ -165,7 +165,7 @@ public final class FaceTest {
         long self = Thread.currentThread().getId();
         long before = threads.getThreadAllocatedBytes(self);
         TurnBench x = new TurnBench();
-        for (int calls = 0; calls < 512; calls += DEAR_CALLS) {
+        for (int calls = 0; calls + DEAR_CALLS <= 512; calls += DEAR_CALLS) {
             dearCalls(x);
         }
         long bytes = threads.getThreadAllocatedBytes(self) - before;

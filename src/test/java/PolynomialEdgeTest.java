@@ -299,7 +299,8 @@ public final class PolynomialEdgeTest {
         due("-1 by -1", x.number(4, 0, 0, 0), 1);
     }
 
-    @Sentence(at = "Promise 14", text = "(-2, and nothing is done, if one is none, or both DEGREES together are above 8).")
+    @Sentence(at = "Promise 14",
+        text = "(-2, and nothing is done, if one is none, or both DEGREES together are above 8).")
     static void p14_noSuchPolynomial() {
         Benches.changesNothing(x -> {
             for (int p : Benches.beyond(8)) {
@@ -316,7 +317,8 @@ public final class PolynomialEdgeTest {
         }
     }
 
-    @Sentence(at = "Promise 14", text = "(-2, and nothing is done, if one is none, or both DEGREES together are above 8).")
+    @Sentence(at = "Promise 14",
+        text = "(-2, and nothing is done, if one is none, or both DEGREES together are above 8).")
     static void p14_degreesTogether8And9() {
         for (int d = 0; d <= 8; d++) {
             TurnBench x = new TurnBench();
@@ -334,7 +336,8 @@ public final class PolynomialEdgeTest {
         }
     }
 
-    @Sentence(at = "Promise 14", text = "(-2, and nothing is done, if one is none, or both DEGREES together are above 8).")
+    @Sentence(at = "Promise 14",
+        text = "(-2, and nothing is done, if one is none, or both DEGREES together are above 8).")
     static void p14_above8_nothingIsDone() {
         Benches.changesNothing(x -> {
             due("6 and 4", x.product(0, 6, 4), REFUSED);

@@ -143,7 +143,8 @@ public final class TermsEdgeTest {
         due("about(0) at first", x.about(0), 1);
     }
 
-    @Sentence(at = "Terms 1", text = "as it is made: of ELEMENTS one behind the other, of the told TURNS by their numbers,"
+    @Sentence(at = "Terms 1",
+        text = "as it is made: of ELEMENTS one behind the other, of the told TURNS by their numbers,"
         + " the ELEMENT and then the TURN together (first the one, then the other), if that is none yet,"
         + " comes behind them")
     static void t1_asItIsMade_order() {
@@ -160,7 +161,8 @@ public final class TermsEdgeTest {
         }
     }
 
-    @Sentence(at = "Terms 1", text = "as it is made: of ELEMENTS one behind the other, of the told TURNS by their numbers,"
+    @Sentence(at = "Terms 1",
+        text = "as it is made: of ELEMENTS one behind the other, of the told TURNS by their numbers,"
         + " the ELEMENT and then the TURN together (first the one, then the other), if that is none yet,"
         + " comes behind them")
     static void t1_asItIsMade_noneTwice() {
@@ -275,7 +277,8 @@ public final class TermsEdgeTest {
         }
     }
 
-    @Sentence(at = "Terms 1", text = "A MIRROR is an ELEMENT other than 0 that leaves all places of a plane as they are.")
+    @Sentence(at = "Terms 1",
+        text = "A MIRROR is an ELEMENT other than 0 that leaves all places of a plane as they are.")
     static void t1_mirror() {
         due("0, which leaves all", new TurnBench().of(0, 3), 0);
         due("0 among others", Benches.cube().of(0, 3), 0);
@@ -493,7 +496,8 @@ public final class TermsEdgeTest {
         due("2 2 2", x.number(1, 2, 2, 2), 0);
     }
 
-    @Sentence(at = "Terms 2", text = "It STAYS for a SIGN if each ELEMENT turns it into itself times what the SIGN gives.")
+    @Sentence(at = "Terms 2",
+        text = "It STAYS for a SIGN if each ELEMENT turns it into itself times what the SIGN gives.")
     static void t2_stays_emptyAndFull() {
         TurnBench x = Benches.cube();
         for (int c = 0; c < 4; c++) {
@@ -513,7 +517,8 @@ public final class TermsEdgeTest {
         due("for element 0 alone all stay", z.stays(0, 0), 1);
     }
 
-    @Sentence(at = "Terms 2", text = "It STAYS for a SIGN if each ELEMENT turns it into itself times what the SIGN gives.")
+    @Sentence(at = "Terms 2",
+        text = "It STAYS for a SIGN if each ELEMENT turns it into itself times what the SIGN gives.")
     static void t2_stays_theLastElementCounts() {
         TurnBench x = Benches.of(2, 1, 3, 1, 2, -3);
         x.put(0, 1, 0, 1, 4);
@@ -687,7 +692,8 @@ public final class TermsEdgeTest {
         due("the first that has any", x.laws(4, 1), 6);
     }
 
-    @Sentence(at = "Terms 3", text = "A POLYNOMIAL that STAYS for SIGN 0, of DEGREE 6 at most, is MADE, degree by degree"
+    @Sentence(at = "Terms 3",
+        text = "A POLYNOMIAL that STAYS for SIGN 0, of DEGREE 6 at most, is MADE, degree by degree"
         + " (the lesser ahead), of those PRODUCTS of the degree that are no sums of multiples of PRODUCTS ahead of them"
         + " in their order: in just one way")
     static void t3_made_degreeByDegree() {
@@ -705,7 +711,8 @@ public final class TermsEdgeTest {
         due("of degree 7", x.made(0), TurnBench.NONE);
     }
 
-    @Sentence(at = "Terms 3", text = "A POLYNOMIAL that STAYS for SIGN 0, of DEGREE 6 at most, is MADE, degree by degree"
+    @Sentence(at = "Terms 3",
+        text = "A POLYNOMIAL that STAYS for SIGN 0, of DEGREE 6 at most, is MADE, degree by degree"
         + " (the lesser ahead), of those PRODUCTS of the degree that are no sums of multiples of PRODUCTS ahead of them"
         + " in their order: in just one way")
     static void t3_made_notOfAProductThatIsASum() {
@@ -800,7 +807,8 @@ public final class TermsEdgeTest {
         due("not the other way", x.leads(-2, 3, 1), 5);
     }
 
-    @Sentence(at = "Terms 4", text = "IMAGES: the PLACES to which ELEMENTS lead it, each once, in the order of the least"
+    @Sentence(at = "Terms 4",
+        text = "IMAGES: the PLACES to which ELEMENTS lead it, each once, in the order of the least"
         + " ELEMENT.")
     static void t4_imagesEachOnce() {
         TurnBench x = Benches.cube();
